@@ -2,18 +2,13 @@ import java.lang.reflect.Constructor;
 import java.lang.reflect.Field;
 import java.lang.reflect.Method;
 import java.lang.reflect.Modifier;
-import java.nio.file.Files;
-import java.nio.file.Path;
 import java.util.Arrays;
 import java.util.Set;
 import java.util.TreeSet;
-import java.util.regex.Matcher;
-import java.util.regex.Pattern;
 
 /**
- * The class has the face of the document, no more and no less, and keeps to the
- * rules of LANGUAGE.md that can be seen from its members and its words.
- * Takes the path of the class's source as its argument.
+ * The class has the face of the document, no more and no less, and its members
+ * are such as LANGUAGE.md leaves. What its source must keep to is in LanguageTest.
  */
 public final class FaceTest {
     private static final String[] FACE = {
@@ -23,13 +18,9 @@ public final class FaceTest {
         "long weakDemand(int,long)", "long image(int,long)", "int refines(int,int)", "int settled(int)",
         "int widest(int)",
     };
-    private static final String RULED_OUT = "\\b(import|package|throw|throws|try|catch|finally|synchronized|assert"
-            + "|instanceof|null|float|double|String|Object|Math|Integer|Long|System|Arrays|enum|interface|record"
-            + "|var|native|volatile|transient)\\b|->|::|\"|static\\s*\\{|\\[\\]\\s*\\[";
-
     private static int wrong = 0;
 
-    public static void main(String[] args) throws Exception {
+    public static void main(String[] args) {
         Class<?> type = GuardedCommands.class;
         check(Modifier.isPublic(type.getModifiers()) && Modifier.isFinal(type.getModifiers()), "public and final");
         check(type.getSuperclass() == Object.class && type.getInterfaces().length == 0, "a plain class");
@@ -38,7 +29,6 @@ public final class FaceTest {
         constructors(type);
         methods(type);
         fields(type);
-        words(Files.readString(Path.of(args[0])));
         System.out.println(wrong == 0 ? "the face is as due" : wrong + " things are not as due");
         if (wrong != 0) {
             System.exit(1);
@@ -104,17 +94,5 @@ public final class FaceTest {
             }
         }
         check(changing <= 40, "at most forty fields");
-    }
-
-    private static void words(String source) {
-        String bare = source.replaceAll("(?s)/\\*.*?\\*/", " ").replaceAll("//[^\n]*", " ");
-        Matcher found = Pattern.compile(RULED_OUT).matcher(bare);
-        while (found.find()) {
-            check(false, "no '" + found.group() + "' in the source");
-        }
-        Matcher made = Pattern.compile("([^\n]*)\\bnew\\b").matcher(bare);
-        while (made.find()) {
-            check(made.group(1).trim().startsWith("private final"), "an array is made in a field's initialiser");
-        }
     }
 }
